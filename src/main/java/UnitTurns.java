@@ -1075,9 +1075,11 @@ public final class UnitTurns {
             System.arraycopy(trial, 0, turns, 0, block.count);
         }
 
-        /** Instruction by instruction the least turn with which the others can still be put. */
+        /**
+         * Instruction by instruction the least turn with which the others can still be put; row 0
+         * is still as the length that has a plan left it.
+         */
         private void takeFirst(Block block) {
-            openAll(block);
             for (int i = 0; i < block.count; i++) {
                 int bits = open[pair(i, i)] & upTo(turns[i] - 1);
                 for (int turn = 0; turn <= LAST_TURN; turn++) {

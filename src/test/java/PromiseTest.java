@@ -483,6 +483,9 @@ public final class PromiseTest {
             }
         }
         dueTurns("the longest there is", x, -1, 30, 0, 5, 10, 15, 20, 25);
+        for (int rule = 0; rule < 3; rule++) {
+            dueTurns("the longest there is, by ranks", x, rule, 30, 0, 5, 10, 15, 20, 25);
+        }
         x = new UnitTurns();
         x.kind(0, 0, 0, 3);
         x.kind(0, 0, 0, 1);
