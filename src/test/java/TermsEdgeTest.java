@@ -562,6 +562,14 @@ public final class TermsEdgeTest extends Edges {
             dueTurns("one holds all", full, NONE, 25, 0, 4, 8, 12, 16, 20);
             UnitTurns held = block(kinds(9, 0, 0, 1), 0, 0, 0, 0, 0, 0);
             dueTurns("turns between are used", held, NONE, 12, 0, 1, 2, 6, 7, 8);
+            UnitTurns needed = free(3, 2);
+            needed.needs(2, 1, 1);
+            dueTurns("of two of a kind the one that is needed goes first", needed, NONE, 4, 1, 0, 2);
+            needed.needs(2, 0, 1);
+            dueTurns("both are needed: the lesser number goes first", needed, NONE, 5, 0, 1, 3);
+            UnitTurns waits = free(3, 2);
+            waits.needs(0, 2, 1);
+            dueTurns("of two of a kind the one that waits goes last", waits, NONE, 4, 2, 1, 0);
             UnitTurns mixed = block(kinds(1, 0, 0, 2, 9, 2, 0, 4), 1, 0, 0, 1);
             dueTurns("no unit's turn is left free", mixed, NONE, 6, 0, 1, 4, 2);
             int[] crossed = {6, 9, 10, 2, 13, 13, 0, 4, 11, 9, 2, 1, 6, 9, 11, 4, 0, 10, 0, 2};
