@@ -1005,21 +1005,23 @@ public final class UnitTurns {
 
         /** Those of the set stand on their trial turns; whether the others can be put beside them. */
         private boolean place(Block block, int level, int standing) {
-            int i = tightest(block, level, standing);
-            if (i == NONE || level >= MOST_INSTRUCTIONS) {
+            int i = level < MOST_INSTRUCTIONS ? tightest(block, level, standing) : NONE;
+            if (i == NONE) {
                 return true;
             }
             int bits = open[pair(level, i)];
             for (int turn = 0; turn <= LAST_TURN; turn++) {
-                if ((bits >> turn & 1) != 0) {
-                    trial[i] = turn;
-                    int more = standing | 1 << i;
-                    if (narrow(block, level, i, more) && place(block, level + 1, more)) {
-                        return true;
-                    }
+                if ((bits >> turn & 1) != 0 && isPossible(block, level, i, turn, standing | 1 << i)) {
+                    return true;
                 }
             }
             return false;
+        }
+
+        /** Whether the others can be put if i, now one of those that stand, has this turn. */
+        private boolean isPossible(Block block, int level, int i, int turn, int standing) {
+            trial[i] = turn;
+            return narrow(block, level, i, standing) && place(block, level + 1, standing);
         }
 
         /** The one with the fewest turns open, so that what can't be is seen early; NONE: all stand. */
@@ -1081,22 +1083,17 @@ public final class UnitTurns {
          */
         private void takeFirst(Block block) {
             for (int i = 0; i < block.count; i++) {
+                int standing = (1 << (i + 1)) - 1;
                 int bits = open[pair(i, i)] & upTo(turns[i] - 1);
                 for (int turn = 0; turn <= LAST_TURN; turn++) {
-                    if ((bits >> turn & 1) != 0 && isPossible(block, i, turn)) {
+                    if ((bits >> turn & 1) != 0 && isPossible(block, i, i, turn, standing)) {
                         takeTrial(block);
                         break;
                     }
                 }
                 trial[i] = turns[i];
-                narrow(block, i, i, (1 << (i + 1)) - 1);
+                narrow(block, i, i, standing);
             }
-        }
-
-        private boolean isPossible(Block block, int i, int turn) {
-            int standing = (1 << (i + 1)) - 1;
-            trial[i] = turn;
-            return narrow(block, i, i, standing) && place(block, i + 1, standing);
         }
 
         private static int from(int turn) {

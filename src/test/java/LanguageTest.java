@@ -21,7 +21,7 @@ public final class LanguageTest {
         checkFace(Files.readString(DOCUMENT));
         checkClasses();
         checkWords(source);
-        checkLengths(source);
+        checkMethods(source);
         checkRoom();
         System.out.println(wrong == 0 ? "the language is kept" : wrong + " rules are broken");
         if (wrong != 0) {
@@ -121,19 +121,30 @@ public final class LanguageTest {
     }
 
     /** A method is what stands from a line with a brace, eight or four blanks in, to its end. */
-    private static void checkLengths(String source) {
+    private static void checkMethods(String source) {
         String[] lines = source.split("\n");
+        int methods = 0;
         for (int n = 0; n < lines.length; n++) {
-            String line = lines[n];
-            if (line.matches("( {4}| {8})\\S.*\\) \\{")) {
-                String end = line.replaceAll("\\S.*", "") + "}";
-                int last = n;
-                while (last < lines.length && !lines[last].equals(end)) {
+            Matcher head = Pattern.compile("( {4}| {8})(\\S.*\\b|)(\\w+)\\(.*\\) \\{").matcher(lines[n]);
+            if (head.matches()) {
+                StringBuilder body = new StringBuilder();
+                int last = n + 1;
+                while (last < lines.length && !lines[last].equals(head.group(1) + "}")) {
+                    body.append(lines[last]).append('\n');
                     last++;
                 }
-                demand(last - n < 60, "rule 11: a long method: " + line.trim());
+                methods++;
+                demand(last - n < 60, "rule 11: a long method: " + head.group(3));
+                checkOwnCalls(head.group(2), head.group(3), body.toString());
             }
         }
+        demand(methods > 100, "the methods are found: " + methods);
+    }
+
+    /** Only a private static method may call itself; private ones that are not may call one another. */
+    private static void checkOwnCalls(String before, String name, String body) {
+        boolean callsItself = Pattern.compile("(?<![.\\w])" + name + "\\(").matcher(body).find();
+        demand(!callsItself || before.startsWith("private static"), "rule 8: a method calls itself: " + name);
     }
 
     /** What 512 dear calls make, in bytes: nothing is to be made behind the constructor. */
